@@ -82,6 +82,10 @@ public final class ForecastTest {
         DogLeases edge = Due.of("house 0 0 0 0;house 0 1 0 1;life 99;");
         Due.same("sealed behind 99", 99, () -> edge.sealed(0));
         Due.same("sealed behind more", -1, () -> edge.sealed(1));
+        DogLeases hundred = Due.of("corner 0 0 0 0;house 0 0 0 1;life 50;");
+        Due.same("sealed behind 100 is none", "-1 -1", () -> hundred.sealed(0) + " " + hundred.sealed(1));
+        hundred.quarters(1);
+        Due.same("sealed behind 99 then", "99 99", () -> hundred.sealed(0) + " " + hundred.sealed(1));
         DogLeases short_ = Due.of("house 0 0 0 5;life 1;");
         Due.same("a life of 1", 6, () -> short_.sealed(0));
     }

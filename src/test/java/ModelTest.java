@@ -39,7 +39,43 @@ public final class ModelTest {
             }
             calls += many;
         }
-        System.out.println(RUNS + " runs, " + calls + " calls: all answers are as due");
+        int fine = 0;
+        for (int run = FIRST; run < FIRST + 20 * RUNS; run++) {
+            ModelTest one = new ModelTest(run);
+            if (!one.tell(one.tokens()) || !one.askRules()) {
+                System.out.println("tokens of " + run + " are not as due");
+                one.told.forEach(System.out::println);
+                System.exit(1);
+            }
+            fine += one.houses;
+        }
+        System.out.println(RUNS + " runs, " + calls + " calls, " + 20 * RUNS + " rows of tokens, " + fine + " without a fault: all answers are as due");
+    }
+
+    /** A rule of tokens that mostly, but not always, may stand where they do. */
+    private String tokens() {
+        String[] parts = {"1", "0", "7", "age", "rent", "chops", "(", "(", "not", "held", "12", "9999", "x", "or", "12345", ")", "+", ";", "A"};
+        String[] joints = {"+", "-", "*", "/", "<", "=", "and", "or", ")", ")", ";", "<", "not", "5", "chops", "(", ">", "likes"};
+        StringBuilder some = new StringBuilder("house 7 3 2 0;tenant 4 1 1 50;").append(random.nextInt(4) == 0 ? "sleeps" : "likes");
+        boolean wantsPart = true;
+        int open = 0;
+        for (int many = 1 + random.nextInt(random.nextInt(3) == 0 ? 40 : 12); many > 0; many--) {
+            String[] from = wantsPart ? parts : joints;
+            String token = from[random.nextInt(random.nextInt(12) == 0 ? from.length : wantsPart ? 12 : open > 0 ? 10 : 8)];
+            some.append(random.nextInt(3) == 0 ? "\n" : " ").append(token);
+            open += token.equals("(") ? 1 : token.equals(")") ? -1 : 0;
+            wantsPart = wantsPart ? token.equals("(") || token.equals("not") : !token.equals(")");
+        }
+        if (random.nextInt(5) != 0) {
+            some.append(wantsPart ? " 3" : "").append(")".repeat(Math.max(0, open))).append(";");
+        }
+        return some.toString();
+    }
+
+    private boolean askRules() throws Exception {
+        return both(DogLeases.class.getMethod("liking", int.class, int.class), new Object[] {0, 0})
+            && both(DogLeases.class.getMethod("house", int.class, int.class), new Object[] {0, 7})
+            && both(DogLeases.class.getMethod("empty", int.class), new Object[] {3});
     }
 
     private static List<Method> face() {
@@ -55,7 +91,7 @@ public final class ModelTest {
 
     private int play(List<Method> face) throws Exception {
         int calls = 0;
-        int most = 40 + random.nextInt(140);
+        int most = random.nextInt(12) == 0 ? 512 : 40 + random.nextInt(140);
         for (int round = 0; round < most; round++) {
             if (round == 0 || random.nextInt(90) == 0) {
                 String text = round > 0 && random.nextInt(2) == 0 ? wildText() : text();

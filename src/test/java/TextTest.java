@@ -8,7 +8,9 @@ public final class TextTest {
         limits();
         rules();
         nesting();
+        cutOff();
         afterFault();
+        ruleBehindFault();
         values();
         Due.end();
     }
@@ -90,6 +92,11 @@ public final class TextTest {
         fault("\r", 1, 0);
         fault("  \u00c8", 1, 2);
         fault("\u0000", 1, 0);
+        fault("mouse 1 2 3 4;", 1, 0);
+        fault("zzz", 1, 0);
+        fault("house {", 1, 6);
+        fault("house `", 1, 6);
+        fault("house :", 1, 6);
         fault("house", 1, 5);
         fault("house  ", 1, 7);
         fault("house 1 2 3", 1, 11);
@@ -175,6 +182,12 @@ public final class TextTest {
         fault("likes 1 12345;", 1, 8);
         fault("likes x;", 3, 6);
         fault("likes nott 1;", 3, 6);
+        fault("likes z;", 3, 6);
+        fault("likes zchops;", 3, 6);
+        fault("likes bats;", 3, 6);
+        fault("likes {;", 1, 6);
+        fault("likes `;", 1, 6);
+        fault("likes :;", 1, 6);
         fault("likes and;", 3, 6);
         fault("likes house;", 3, 6);
         fault("likes not x;", 3, 10);
@@ -205,7 +218,43 @@ public final class TextTest {
         fault("likes not not not not not not not 1;", 2, 30);
         fault("likes 1 and not not not not not not not", 2, 36);
         fine("likes not not not not (not not not 1);");
+        fine("likes 1+(not not not not not not 1);");
         fine("likes not not not not 1 and not not not 1;");
+    }
+
+    /** Bytes of the tape behind the text are no part of its last token. */
+    private static void cutOff() {
+        cut("house 1 2 3 4;", 4, 1, 0);
+        cut("life 12;", 6, 1, 6);
+        cut("likes 12345;", 10, 1, 10);
+        cut("likes 12345;", 11, 2, 6);
+        cut("likes chops;", 9, 3, 6);
+        cut("likes chops;", 11, 1, 11);
+        cut("life 7;likes", 7, 0, -1);
+        cut("life 7;likes", 8, 1, 7);
+    }
+
+    private static void cut(String text, int n, int kind, int place) {
+        DogLeases x = new DogLeases();
+        Due.feed(x, text);
+        Due.same("the first " + n + " of " + text, kind + "@" + place, () -> x.terrace(n) + "@" + x.fault());
+    }
+
+    /** A rule that broke off leaves nothing behind for the next one. */
+    private static void ruleBehindFault() {
+        String[] broken = {"likes not x", "likes not not not not not not x", "likes 3-x", "likes 3<x", "likes 3-(4-(x", "likes 1<(1)<1", "likes (1<1", "sleeps chops"};
+        DogLeases x = new DogLeases();
+        for (String text : broken) {
+            Due.tell(x, text);
+            Due.same("a fault of " + text, true, () -> x.fault() > 0);
+            Due.same("a rule behind " + text, 0, () -> Due.tell(x, "house 1 2 3 4;tenant 5 0 0 0;likes not not not not not not 1=1;"));
+            Due.same("its value", 1, () -> x.liking(0, 0));
+            Due.tell(x, text);
+            Due.same("another rule behind " + text, 0, () -> Due.tell(x, "house 1 2 3 4;tenant 5 0 0 0;likes 7-chops;"));
+            Due.same("its value too", 2, () -> x.liking(0, 0));
+        }
+        Due.same("no rule", 0, () -> Due.tell(x, "house 1 2 3 4;tenant 5 0 0 0;"));
+        Due.same("liking without", 15, () -> x.liking(0, 0));
     }
 
     private static void afterFault() {

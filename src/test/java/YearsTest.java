@@ -100,17 +100,28 @@ public final class YearsTest {
         Due.same("in place of the first", "0 0", () -> x.count(3) + " " + x.count(8));
         DogLeases full = Due.of("house 9 8 5 1;tenant 3 2 1 30;");
         for (int i = 0; i < 43; i++) {
-            full.temper(0, i % 10);
+            full.temper(0, i % 7);
         }
         full.image();
         for (int i = 0; i < 25; i++) {
             full.cats(0, i % 4);
         }
         full.restore();
-        Due.same("a full ring", "40 2", () -> full.count(8) + " " + full.house(0, 2));
-        Due.same("its last act", "39 1", () -> full.undo() + " " + full.house(0, 2));
+        Due.same("a full ring", "40 0", () -> full.count(8) + " " + full.house(0, 2));
+        Due.same("its last act", "39 6", () -> full.undo() + " " + full.house(0, 2));
         undoAll(full);
         Due.same("its first act", 2, () -> full.house(0, 2));
+        for (int i = 0; i < 8; i++) {
+            full.see(0, 0, 1, i < 7);
+        }
+        full.image();
+        full.forget();
+        for (int i = 0; i < 8; i++) {
+            full.see(0, 0, 2, true);
+        }
+        Due.same("eight that are so", 1, () -> full.pockets(2));
+        full.restore();
+        Due.same("eight of which the last one is not so", "8 0", () -> full.count(9) + " " + full.pockets(2));
     }
 
     private static void change(DogLeases x) {
