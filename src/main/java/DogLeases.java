@@ -582,14 +582,14 @@ public final class DogLeases {
         for (int t = 0; t < plan.tenants; t++) {
             for (int chops = 0; chops <= CHOPS_MOST; chops++) {
                 if (chops != now.row[CHOPS + t] && isAsSeen(t, chops)) {
-                    meetOwnersBy(t, chops);
+                    tryQuarterWith(CHOPS + t, chops);
+                    meetOwnersOfTrial();
                 }
             }
         }
     }
 
-    private void meetOwnersBy(int tenant, int chops) {
-        tryQuarterWith(CHOPS + tenant, chops);
+    private void meetOwnersOfTrial() {
         for (int h = 0; h < plan.houses; h++) {
             // Nobody is -1 and takes bit 0.
             ownersMet[h] |= 1 << trial[OWNER + h] + 1;

@@ -343,6 +343,13 @@ public final class TextTest {
         gives("9999*9999*9999<0", 1);
         gives("4096*4096*256", 0);
         gives("(0-4096*4096*128)/(0-1)", -999);
-        gives("00012/12".substring(1), 1);
+        gives("0012/12", 1);
+        // Everything that can wait, at every depth: 1 if what is within is 0 or more, else 0.
+        String all = "0 or 1 and not not not not not not 0<1+2*(";
+        gives(all.repeat(5) + "1" + ")".repeat(5), 1);
+        gives(all + "0-1)", 0);
+        gives(all.repeat(2) + "0-1))", 1);
+        gives(all.repeat(5) + all.substring(0, all.length() - 1) + "1" + ")".repeat(5), 1);
+        gives("500-(((3)))-1", 496);
     }
 }
