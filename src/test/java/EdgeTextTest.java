@@ -268,6 +268,18 @@ public final class EdgeTextTest {
         Edge.fault("likes 1<2=3;", 1, 9);
         Edge.fault("likes 1+1<2*1=3;", 1, 13);
         Edge.fault("likes (1<2<3);", 1, 10);
+        // What stands in parentheses neither takes the place of a test nor makes place for another one.
+        Edge.fault("likes 1<(2)<3;", 1, 11);
+        Edge.fault("likes 1<2*(3)=4;", 1, 13);
+        Edge.fault("likes (1)<(2)=(3);", 1, 13);
+        Edge.fault("likes 1<(2<3)=4;", 1, 13);
+        Edge.fault("likes 1=(not (2<3) and 1)+1<4;", 1, 27);
+        Edge.fault("likes (1<(2)<3);", 1, 12);
+        Edge.fault("likes not 1<((2))<3;", 1, 17);
+        Edge.gives("1+(2<3)<4", 1);
+        Edge.gives("((1<2)<3)<1", 0);
+        Edge.gives("(1<(2))+(1<(2<3))+((1)=(1))", 2);
+        Edge.gives("1<(2) and 2<(3) or 3<(4)", 1);
         Edge.gives("(1<2)<3", 1);
         Edge.gives("1<2 and 2<3", 1);
         Edge.gives("(2<1)=(1<2 or 3<4)", 0);
@@ -449,7 +461,17 @@ public final class EdgeTextTest {
         Edge.fault("likes 00000;", 2, 6);
         Edge.fault("likes 1+2*(00001", 2, 11);
         Edge.fault("likes " + "1".repeat(600) + ";", 2, 6);
-        Edge.fault("house 00001 0 0 0;", 2, 6);
+        for (String word : new String[] {"house", "corner", "tenant", "butcher"}) {
+            for (int place = 0; place < 4; place++) {
+                String[] four = {"0", "0", "0", "0"};
+                four[place] = "0001";
+                Edge.fine(line(word, four));
+                four[place] = "00001";
+                Edge.fault(line(word, four), 2, word.length() + 1 + 2 * place);
+                four[place] = "1".repeat(40);
+                Edge.fault(line(word, four), 2, word.length() + 1 + 2 * place);
+            }
+        }
         Edge.fault("life " + "0".repeat(300) + "5;", 2, 5);
         // 4294967296 and 5, 2 to the 64th and 5: numbers that an int, or a long, would wrap to 5.
         Edge.fault("life 4294967301;", 2, 5);

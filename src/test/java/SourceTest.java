@@ -28,6 +28,7 @@ public final class SourceTest {
             () -> bare.lines().filter(line -> line.startsWith("import")).collect(Collectors.toList()));
         Due.same("signs", true, () -> source.chars().allMatch(c -> c < 127));
         face();
+        signatures();
         names();
         methods(bare);
         classes(bare);
@@ -43,6 +44,28 @@ public final class SourceTest {
         Due.same("one constructor", 1, () -> DogLeases.class.getDeclaredConstructors().length);
         Due.same("static fields are final", true, () -> Arrays.stream(DogLeases.class.getDeclaredFields())
             .allMatch(f -> !Modifier.isStatic(f.getModifiers()) || Modifier.isFinal(f.getModifiers())));
+    }
+
+    /** Each method of the document's face, with what it takes, gives and throws, and none beside. */
+    private static void signatures() throws IOException {
+        Set<String> told = new TreeSet<>();
+        Matcher m = Pattern.compile("(?m)^    public (\\w+) (\\w+)\\((.*?)\\)( throws (.*))?;$").matcher(Files.readString(Path.of("../shared/DOC.md")));
+        while (m.find()) {
+            String takes = m.group(3).replaceAll("(\\w+) \\w+", "$1");
+            told.add(m.group(1) + " " + m.group(2) + "(" + takes + ") " + (m.group(5) == null ? "" : m.group(5)));
+        }
+        Set<String> seen = new TreeSet<>();
+        for (Method one : DogLeases.class.getDeclaredMethods()) {
+            if (Modifier.isPublic(one.getModifiers())) {
+                seen.add(one.getReturnType().getSimpleName() + " " + one.getName() + "(" + simpleNames(one.getParameterTypes()) + ") " + simpleNames(one.getExceptionTypes()));
+            }
+        }
+        Due.same("so many methods", 36, () -> told.size());
+        Due.same("signatures", told, () -> seen);
+    }
+
+    private static String simpleNames(Class<?>[] types) {
+        return Arrays.stream(types).map(Class::getSimpleName).collect(Collectors.joining(", "));
     }
 
     private static void names() {
